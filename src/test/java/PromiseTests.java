@@ -247,6 +247,44 @@ public final class PromiseTests {
         due("on HIGH", x.block(3, 1), 1);
     }
 
+    /** A NODE whose HIGH is not of the VIEW ahead, but above it, has no ground to propose. */
+    private static void proposeWithoutGround() {
+        promise = 4;
+        ChainVotes x = liars(0, 1, 2, 3);
+        int high = forge(x, 0, 5);
+        x.lie(0, 2, high, 1, 0);
+        deliverAll(x);
+        forge(x, 0, 1);
+        due("VIEW of 2", x.node(2, 1), 6);
+        due("HIGH of 2", x.node(2, 5), high);
+
+        x = liars(0, 1, 2, 3);
+        high = forge(x, 0, 4);
+        x.lie(0, 2, high, 9, 0);
+        deliverAll(x);
+        forge(x, 0, 1);
+        due("VIEW of 2", x.node(2, 1), 2);
+        due("HIGH of 2 is of VIEW 4", x.node(2, 5), high);
+        due("no ground in VIEW 2", x.node(2, 11), 0);
+        due("it can't", x.propose(2, 0), NONE);
+        goToView(x, 2);
+        due("by PROOF it can", x.node(2, 11), 1);
+
+        x = liars(0, 1, 2, 3);
+        high = forge(x, 0, 4);
+        x.lie(0, 2, high, 9, 0);
+        deliverAll(x);
+        goToView(x, 2);
+        forge(x, 0, 2);
+        due("VIEW of 3", x.node(3, 1), 3);
+        due("PROOF of 3", x.node(3, 7), 1);
+        due("PROOF two less is no ground", x.node(3, 11), 0);
+        goToView(x, 3);
+        due("one less is", x.propose(3, 0), 3);
+        due("on HIGH, though of a greater VIEW", x.block(3, 1), high);
+        due("proved", x.block(3, 6), 1);
+    }
+
     private static void timeout() {
         promise = 5;
         ChainVotes x = new ChainVotes();
@@ -1061,6 +1099,12 @@ public final class PromiseTests {
         faulty("Calm 1;", 1, 0);
         faulty("calmx 1;", 1, 0);
         faulty("cal 1;", 1, 0);
+        for (char c : new char[] {'a', 'z', 'A', 'Z'}) faulty("calm" + c + "1;", 1, 0);
+        for (char c : new char[] {'@', '[', '`', '{', '/', ':'}) {
+            faulty("calm" + c + "1;", 1, 4);
+            faulty("calm 1" + c + ";", 1, 6);
+        }
+        faulty("calm 9;calm 0", 2, 12);
         faulty("mark 1;", 1, 0);
         faulty("block 1 1;", 1, 0);
         faulty("calm 00001;", 1, 5);
@@ -1565,6 +1609,58 @@ public final class PromiseTests {
         due("a leader is missing", x.soon(), NONE);
     }
 
+    private static boolean isLonger(ChainVotes x, int[] before) {
+        for (int i = 0; i < before.length; i++) {
+            if (x.node(i, 0) == 0 && x.node(i, 8) > before[i]) return true;
+        }
+        return false;
+    }
+
+    /** SOON as the document says it: by CALM itself, for each number of rounds from the image. */
+    private static int soonByCalm(ChainVotes x) {
+        int[] before = new int[x.look(0)];
+        for (int i = 0; i < before.length; i++) before[i] = x.node(i, 8);
+        x.image(true);
+        for (int r = 1; r <= 20; r++) {
+            x.calm(r);
+            boolean longer = isLonger(x, before);
+            x.image(false);
+            if (longer) return r;
+        }
+        return NONE;
+    }
+
+    /** An object in which one NODE, a liar, is ahead in a VIEW: the others commit once they have come to it. */
+    private static ChainVotes oneAhead(int n, int rule, int who, int view) {
+        ChainVotes x = new ChainVotes();
+        x.nodes(n);
+        x.leaders(rule);
+        for (int i = 0; i < n; i++) x.mode(i, 2);
+        for (int i = 0; i < x.look(2); i++) x.lie(i, 2, 0, view - 1, 0);
+        for (int i = 0; i < n; i++) if (i != who) x.lose(i);
+        deliverAll(x);
+        for (int i = 0; i < n; i++) if (i != who) x.mode(i, 0);
+        return x;
+    }
+
+    private static void soonLater() {
+        promise = 39;
+        for (int view = 2; view < 30; view++) {
+            for (int n = 4; n < 8; n++) {
+                ChainVotes x = oneAhead(n, view % 3, n - 3, view);
+                due("one ahead of " + n + " at VIEW " + view, x.soon(), soonByCalm(x));
+            }
+        }
+        due("the 20th round", oneAhead(4, 0, 1, 14).soon(), 20);
+        ChainVotes x = oneAhead(6, 2, 1, 14);
+        due("not by 20", x.soon(), NONE);
+        int[] before = {1, 1, 1, 1, 1, 1};
+        x.calm(20);
+        due("not yet", isLonger(x, before), false);
+        x.calm(1);
+        due("but by 21", isLonger(x, before), true);
+    }
+
     private static void two() {
         promise = 40;
         ChainVotes x = liars(0, 1, 2, 3);
@@ -1771,6 +1867,7 @@ public final class PromiseTests {
         nodes();
         mode();
         propose();
+        proposeWithoutGround();
         timeout();
         lieMarksAndTimeouts();
         lieBlocks();
@@ -1811,6 +1908,7 @@ public final class PromiseTests {
         path();
         best();
         soon();
+        soonLater();
         two();
         would();
         chain();
