@@ -633,6 +633,28 @@ public final class BoundsOfActs extends Bounds {
         due("VOTED of 1 stays", x.node(1, 2), 1);
     }
 
+    /** Its own VIEW and TIMED are asked, whatever those of NODE 0 are. */
+    static void timeoutByItself() {
+        sentence(5, "TIMED is less than VIEW");
+        Votes x = Votes.liars(4);
+        x.timeout(1);
+        x.empty();
+        x.mode(0, 1);
+        for (int i = 1; i <= 3; i++) x.lie(i, 2, 0, 1, 0);
+        x.deliverAll();
+        due("VIEW of 0", x.node(0, 1), 1);
+        due("VIEW of 1", x.node(1, 1), 2);
+        due("TIMED of 1", x.node(1, 4), 1);
+        due("timeout(1)", x.timeout(1), true);
+        x.empty();
+        for (int i = 1; i <= 3; i++) x.lie(i, 2, 0, 200, 0);
+        x.deliverAll();
+        due("VIEW of 1", x.node(1, 1), 201);
+        due("timeout(1)", x.timeout(1), false);
+        x.mode(0, 0);
+        due("timeout(0), in VIEW 1", x.timeout(0), true);
+    }
+
     static void timeoutIntoAFullRow() {
         sentence(5, "One that would be the 201st is LOST (counted; of a send to all each by itself).");
         Votes x = Votes.liars(4);
@@ -897,6 +919,17 @@ public final class BoundsOfActs extends Bounds {
         }
     }
 
+    static void lieAnswers() {
+        sentence(6, "the BLOCK (1, 3), 0 (0, 2); NONE if one can't be, or there are 100");
+        Votes x = Votes.liars(4);
+        due("what 1", x.lie(1, 1, 0, 1, 0), 1);
+        due("what 3", x.lie(1, 3, 0, 1, 0), 2);
+        due("what 0", x.lie(1, 0, 2, 0, 0), 0);
+        due("what 2", x.lie(1, 2, 0, 7, 0), 0);
+        due("what 1", x.lie(1, 1, 0, 1, 0), 3);
+        due("MESSAGES", x.look(4), 4 + 4 + 1 + 4 + 4);
+    }
+
     static void lieIntoAFullRow() {
         sentence(6, "One that would be the 201st is LOST (counted; of a send to all each by itself).");
         Votes x = Votes.liars(4);
@@ -1097,6 +1130,10 @@ public final class BoundsOfActs extends Bounds {
         due("its own PROOF is two less", x.node(0, 7), 8);
         due("VIEW of 0", x.node(0, 1), 9);
         due("VOTED of 0", x.node(0, 2), 0);
+        x.timeout(1);
+        x.deliver(0);
+        due("nor does its own timeout for the VIEW ahead", x.node(1, 4), 9);
+        due("VIEW of 1", x.node(1, 1), 9);
     }
 
     static void deliverOfALesserView() {
@@ -1136,6 +1173,22 @@ public final class BoundsOfActs extends Bounds {
         due("nor an EVENT", x.look(15), events);
         x.deliver(3);
         due("PARENT is JUSTIFY", x.node(0, 2), 2);
+    }
+
+    /** A BLOCK whose PARENT is certified, but whose JUSTIFY is 0: it brings no certificate and leads nobody on. */
+    static void deliverJustifyNotParent() {
+        sentence(7, "(b) JUSTIFY of b is LEARNT.");
+        Votes x = Votes.liars(4);
+        int a = x.forge(0, 1);
+        x.lie(2, 3, a, 2, 0);
+        x.deliver(0);
+        due("HIGH of 0", x.node(0, 5), 0);
+        due("VIEW of 0", x.node(0, 1), 1);
+        x.empty();
+        x.lie(2, 1, a, 2, 0);
+        x.deliver(0);
+        due("HIGH of 0", x.node(0, 5), a);
+        due("VIEW of 0", x.node(0, 1), 2);
     }
 
     /** Two branches of VIEWS 1, 2, 3, all certified: 2 and 4 on 1, 3 on 2, 5 on 4; NODE 0 has seen 3, then 5. */
@@ -1187,6 +1240,40 @@ public final class BoundsOfActs extends Bounds {
         y.lie(0, 1, 2, 4, 0);
         y.deliver(0);
         due("on LOCK itself: a vote", y.node(0, 2), 4);
+    }
+
+    /** HEIGHTS say nothing of it: LOCK is of VIEW 2 and HEIGHT 2, what is above it of VIEW 9 and HEIGHT 1. */
+    static void deliverLockByView() {
+        sentence(7, "d is JUSTIFY of c: is its VIEW above that of LOCK, LOCK is d");
+        Votes x = Votes.liars(4);
+        x.forge(x.forge(x.forge(0, 1), 2), 3);
+        due("LOCK of 0", x.node(0, 6), 2);
+        int d = x.forge(0, 9);
+        x.forge(d, 11);
+        due("LOCK of 0, which has counted VIEW 11's marks", x.node(0, 6), d);
+        x.lie(1, 2, 3, 50, 0);
+        x.deliver(0);
+        due("LOCK of 0 stays by one of a lesser VIEW and more HEIGHT", x.node(0, 6), d);
+    }
+
+    static void deliverSafeByView() {
+        sentence(7, "b SAFE (it EXTENDS LOCK, or the VIEW of its JUSTIFY is above that of LOCK)");
+        Votes x = Votes.liars(4);
+        x.forge(x.forge(x.forge(0, 1), 2), 3);
+        int d = x.forge(0, 9);
+        x.toView(12);
+        x.lie(0, 1, d, 12, 0);
+        x.deliver(0);
+        due("LOCK of 0 is of VIEW 2 and HEIGHT 2, JUSTIFY of VIEW 9 and HEIGHT 1", x.node(0, 2), 12);
+        Votes y = Votes.liars(4);
+        int e = y.forge(0, 9);
+        y.forge(e, 11);
+        int f = y.forge(y.forge(0, 4), 5);
+        due("LOCK of 0", y.node(0, 6), e);
+        y.toView(12);
+        y.lie(0, 1, f, 12, 0);
+        y.deliver(0);
+        due("LOCK of 0 is of VIEW 9 and HEIGHT 1, JUSTIFY of VIEW 5 and HEIGHT 2", y.node(0, 2), 0);
     }
 
     static void deliverCommitsNotBlockZero() {
@@ -1243,6 +1330,19 @@ public final class BoundsOfActs extends Bounds {
         due("e is l: LOG of 2", x.node(2, 8), 3);
         due("no EVENT but those of 3", x.look(15), events + 2);
         due("no fork", x.look(8), 0);
+    }
+
+    /** What lies between is found by PARENT: BLOCK 2 carries the certificate of 0, not of its PARENT 1. */
+    static void deliverCommitsBetweenByParent() {
+        sentence(7, "what lies between, from l on, and e come behind the LOG, in order (nothing, if e is l)");
+        Votes x = Votes.liars(4);
+        x.forge(0, 1);
+        x.lie(2, 3, 1, 2, 0);
+        x.empty();
+        x.certify(2);
+        x.forge(x.forge(x.forge(2, 3), 4), 5);
+        due("LOG of 2", x.node(2, 8), 4);
+        dueRow("log", i -> x.log(2, i), 0, 1, 2, 3, NONE);
     }
 
     static void deliverCommitsNothingBehind() {
@@ -1419,6 +1519,22 @@ public final class BoundsOfActs extends Bounds {
         y.forge(0, 5);
         y.toView(7);
         due("VIEW 6 is not above 6", y.node(2, 1), 7);
+    }
+
+    /** By ASK it has that PROOF already: its own QUORUM of timeouts brings nothing more, no EVENT either. */
+    static void deliverTimeoutsOfTheSameProof() {
+        sentence(7, "PROOF is v, if that is more; is its VIEW not above v, it is v and 1");
+        Votes x = Votes.liars(4);
+        x.mode(3, 1);
+        x.toView(5);
+        x.mode(3, 2);
+        x.ask(3, 0);
+        due("PROOF of 3", x.node(3, 7), 4);
+        int events = x.look(15);
+        x.toView(5);
+        due("TIMEOUTS of 3", x.timeouts(3, 4), 3);
+        due("PROOF of 3", x.node(3, 7), 4);
+        due("EVENTS", x.look(15), events);
     }
 
     static void deliverTimeoutsOfView200() {
@@ -1708,6 +1824,17 @@ public final class BoundsOfActs extends Bounds {
         due("sent ahead of it", x.deliver(0), 1);
         due("VOTED", x.node(0, 2), 1);
         due("CUT", x.look(19), 0);
+    }
+
+    static void cutOfSilentOnes() {
+        sentence(11, "Two NODES are CUT (true), or not: true");
+        Votes x = new Votes();
+        x.mode(0, 1);
+        x.mode(1, 1);
+        due("cut(0, 2)", x.cut(0, 2, true), true);
+        due("cut(2, 1)", x.cut(2, 1, true), true);
+        due("cut(0, 1)", x.cut(0, 1, true), true);
+        due("couples", x.look(20), 3);
     }
 
     static void cutMended() {
@@ -2150,6 +2277,23 @@ public final class BoundsOfActs extends Bounds {
         }
     }
 
+    /** The second DRAW is made for d 0 as well; a DRAW of just d is delivered, one of a number below it is not. */
+    static void stormBelowD() {
+        sentence(16, "a DRAW of how many there are: that one is taken out; a DRAW of 10 (d 0, too): below d it is dropped, else delivered");
+        for (int seed = 0; seed < 30; seed++) {
+            int second = drawn(drawn(seed));
+            int luck = among(second, 10);
+            for (int d : new int[] {0, luck, Math.min(luck + 1, 9)}) {
+                Votes x = new Votes();
+                x.timeout(0);
+                x.state(seed);
+                due("storm(1, " + d + ") by a DRAW of " + luck, x.storm(1, d), luck < d ? 0 : 1);
+                due("STATE", x.look(14), second);
+                due("MESSAGES", x.look(4), 3);
+            }
+        }
+    }
+
     static void stormToSilent() {
         sentence(16, "how many were delivered; NONE if one can't be");
         Votes x = new Votes();
@@ -2254,6 +2398,22 @@ public final class BoundsOfActs extends Bounds {
         due("MESSAGES", x.look(4), 0);
         due("four BLOCKS, four marks", x.look(11), 8);
         due("CERTIFIED", x.block(1, 7), 1);
+    }
+
+    /** Of two BLOCKS of one VIEW each NODE votes for the one that stands first in the row. */
+    static void calmInOrder() {
+        sentence(18, "as long as there are MESSAGES the first is delivered");
+        Votes x = new Votes();
+        x.mode(1, 2);
+        x.lie(1, 1, 0, 1, 0);
+        x.lie(1, 1, 0, 1, 0);
+        x.turn(4);
+        x.calm(1);
+        dueRow("the first EVENT", w -> x.event(0, w), 0, 0, 2);
+        dueRow("the fourth", w -> x.event(3, w), 0, 3, 2);
+        dueRow("the first line of EVIDENCE", w -> x.evidence(0, w), 1, 1, 3, 2, 1);
+        due("CERTIFIED 1", x.block(1, 7), 0);
+        due("CERTIFIED 2", x.block(2, 7), 1);
     }
 
     static void calmDeliversFirst() {

@@ -32,6 +32,16 @@ public final class BoundsOfAnswers extends Bounds {
         return x;
     }
 
+    /** VIEWS with gaps: BLOCK 1 of VIEW 1, 2 of VIEW 5, 3 of VIEW 9, one on the other, each carrying the certificate of 0. */
+    private static Votes gaps() {
+        Votes x = Votes.liars(4);
+        x.lie(1, 3, 0, 1, 5);
+        x.lie(1, 3, 1, 5, 7);
+        x.lie(1, 3, 2, 9, 9);
+        x.empty();
+        return x;
+    }
+
     // ---------------------------------------------------------------- 24: node
 
     static void nodeOfWhom() {
@@ -141,6 +151,15 @@ public final class BoundsOfAnswers extends Bounds {
         }
         dueRow("block 1", w -> x.block(1, w), 1, 0, 0, 9, 1, 1, 1, 0, NONE);
         dueRow("block 0", w -> x.block(0, w), 0, NONE, 0, 0, NONE, 0, 0, 1, NONE);
+    }
+
+    static void blockHeight() {
+        sentence(26, "HEIGHT (PARENT's and 1)");
+        Votes x = gaps();
+        dueRow("HEIGHT", b -> x.block(b, 5), 0, 1, 2, 3, NONE);
+        dueRow("VIEW", b -> x.block(b, 0), 0, 1, 5, 9, NONE);
+        dueRow("PARENT", b -> x.block(b, 1), NONE, 0, 1, 2, NONE);
+        dueRow("JUSTIFY", b -> x.block(b, 2), 0, 0, 0, 0, NONE);
     }
 
     static void blockThe100th() {
@@ -424,6 +443,24 @@ public final class BoundsOfAnswers extends Bounds {
         due("another's mark", x.look(6), 2);
     }
 
+    static void evidenceOfMarksOfOneView() {
+        sentence(30, "Has it a mark of j for another BLOCK of that VIEW");
+        Votes x = Votes.liars(4);
+        x.lie(1, 1, 0, 1, 0);
+        x.lie(1, 1, 0, 5, 0);
+        x.lie(1, 3, 1, 5, 0);
+        x.empty();
+        for (int b = 1; b <= 2; b++) {
+            x.lie(3, 0, b, 0, 0);
+            x.deliverAll();
+        }
+        due("of one HEIGHT, but two VIEWS", x.look(6), 0);
+        x.lie(3, 0, 3, 0, 0);
+        x.deliverAll();
+        due("of one VIEW, but two HEIGHTS", x.look(6), 1);
+        dueRow("line 0", w -> x.evidence(0, w), 2, 3, 2, 2, 3);
+    }
+
     // ---------------------------------------------------------------- 31: event
 
     static void eventOfNone() {
@@ -441,6 +478,29 @@ public final class BoundsOfAnswers extends Bounds {
         dueRow("line 0", w -> x.event(0, w), 0, 3, 1, NONE);
         for (int w : new int[] {MIN, -1, 3, 4, MAX}) due("event(0, " + w + ")", x.event(0, w), NONE);
         for (int i : new int[] {MIN, -1, 1, 99, 100, MAX}) due("event(" + i + ", 0)", x.event(i, 0), NONE);
+    }
+
+    static void eventOfEachKind() {
+        sentence(31, "0 it voted, 1 it did not, for (d) is all so but that b is not SAFE, 2 it counted QUORUM marks, 3 committed (each BLOCK), 4 a fork (e), 5 PROOF became that VIEW");
+        Votes x = Votes.liars(4);
+        x.forge(x.forge(x.forge(0, 1), 2), 3);
+        x.forge(x.forge(x.forge(0, 6), 7), 8);
+        x.ask(0, 1);
+        int[][] due = {{2, 2, 1}, {2, 3, 2}, {2, 0, 3}, {3, 0, 1}, {2, 3, 4}, {2, 0, 5}, {2, 1, 6}, {3, 1, 4}, {4, 0, 4}};
+        for (int i = 0; i < due.length; i++) {
+            int line = i;
+            dueRow("line " + i, w -> x.event(line, w), due[i]);
+        }
+        due("lines", x.look(15), 9);
+        x.toView(20);
+        due("lines", x.look(15), 13);
+        dueRow("PROOF", w -> x.event(12, w), 5, 3, 19);
+        x.lie(0, 1, 0, 20, 0);
+        for (int i = 0; i < 3; i++) x.deliver(0);
+        dueRow("around NODE 0's LOCK", w -> x.event(13, w), 1, 0, 7);
+        dueRow("around NODE 1's LOCK", w -> x.event(14, w), 1, 1, 7);
+        dueRow("NODE 2 has none but 0", w -> x.event(15, w), 0, 2, 7);
+        due("lines", x.look(15), 16);
     }
 
     static void eventOf100Lines() {
@@ -576,6 +636,14 @@ public final class BoundsOfAnswers extends Bounds {
         due("ledger(100, true, 0)", x.ledger(100, true, 0), NONE);
     }
 
+    static void ledgerOfGaps() {
+        sentence(32, "of a BLOCK behind its CHAIN, from BLOCK 0 on");
+        Votes x = gaps();
+        dueRow("ACCOUNT 0", b -> x.ledger(b, true, 0), 10, 15, 22, 31, NONE);
+        x.lie(1, 3, 0, 9, 1);
+        due("of HEIGHT 1 and VIEW 9, behind a longer one", x.ledger(4, true, 0), 11);
+    }
+
     static void ledgerOnABranch() {
         sentence(32, "of a BLOCK behind its CHAIN, from BLOCK 0 on");
         Votes x = Votes.liars(4);
@@ -669,6 +737,19 @@ public final class BoundsOfAnswers extends Bounds {
         due("of three", x.audit(0), 3);
     }
 
+    static void auditCouplesOfOneView() {
+        sentence(34, "0 how many couples of CERTIFIED BLOCKS have one VIEW");
+        Votes x = Votes.liars(4);
+        int a = x.forge(0, 2);
+        x.forge(0, 1);
+        due("of one HEIGHT, VIEWS 2 and 1", x.audit(0), 0);
+        int b = x.forge(a, 5);
+        due("HEIGHT 2 beside VIEW 2", x.audit(0), 0);
+        x.forge(0, 5);
+        due("HEIGHTS 2 and 1, both of VIEW 5", x.audit(0), 1);
+        due("b's HEIGHT", x.block(b, 5), 2);
+    }
+
     static void auditAgainstWhom() {
         sentence(34, "1 against how many NODES there is EVIDENCE");
         Votes x = Votes.liars(7);
@@ -682,6 +763,40 @@ public final class BoundsOfAnswers extends Bounds {
         x.deliver(0);
         x.deliver(6);
         due("against 0, too", x.audit(1), 2);
+    }
+
+    static void auditAgainstOne() {
+        sentence(34, "1 against how many NODES there is EVIDENCE");
+        Votes x = Votes.liars(4);
+        x.lie(1, 1, 0, 1, 0);
+        x.lie(1, 1, 0, 1, 0);
+        x.deliver(0);
+        due("of no line", x.audit(1), 0);
+        x.deliver(3);
+        due("lines", x.look(6), 1);
+        due("of one line", x.audit(1), 1);
+    }
+
+    static void auditOf100Blocks() {
+        sentence(34, "AUDIT what 0 how many couples of CERTIFIED BLOCKS have one VIEW");
+        Votes x = Votes.liars(4);
+        x.blocksTill(100);
+        x.certify(99);
+        x.certify(98);
+        due("98 and 99", x.audit(0), 1);
+        due("best(0)", x.best(0), 98);
+        dueRow("of a CHAIN of 100", hundredBlocks()::audit, 0, 0, 97, 98, 0);
+    }
+
+    static void auditOfSeven() {
+        sentence(34, "3 how many BLOCKS the longest LOG of all has");
+        Votes x = new Votes();
+        x.nodes(7);
+        dueRow("at first", x::audit, 0, 0, 1, 1, 0);
+        x.calm(3);
+        dueRow("NODE 4 has committed 1", x::audit, 0, 0, 1, 2, 0);
+        x.calm(1);
+        dueRow("all have, and NODE 5 has committed 2", x::audit, 0, 0, 2, 3, 0);
     }
 
     static void auditInCommon() {
@@ -711,6 +826,26 @@ public final class BoundsOfAnswers extends Bounds {
         due("without 0", x.audit(2), 2);
     }
 
+    static void auditInCommonThenUnlike() {
+        sentence(34, "2 how many BLOCKS all LOGS of NODES that are not silent have in common, from the first on (no such NODE: 0)");
+        Votes x = Votes.liars(4);
+        int a = x.forge(0, 1);
+        x.forge(x.forge(x.forge(a, 2), 3), 4);
+        x.forge(x.forge(x.forge(a, 6), 7), 8);
+        x.lie(0, 2, 4, 50, 0);
+        x.deliver(2);
+        x.deliver(2);
+        x.lie(0, 2, 7, 50, 0);
+        x.deliver(2);
+        x.deliver(2);
+        x.deliver(2);
+        due("the last of 2", x.node(2, 9), 2);
+        due("the last of 3", x.node(3, 9), 2);
+        due("the last of 0", x.node(0, 9), 5);
+        due("the last of 1", x.node(1, 9), 2);
+        due("0 and 1 in common", x.audit(2), 2);
+    }
+
     static void auditLongest() {
         sentence(34, "3 how many BLOCKS the longest LOG of all has");
         Votes x = new Votes();
@@ -737,6 +872,20 @@ public final class BoundsOfAnswers extends Bounds {
         x.mode(3, 0);
         x.ask(3, 0);
         due("BLOCK 4 alone: 2, 3 and 5 EXTEND 1", x.audit(4), 1);
+    }
+
+    static void auditStraysBesideTheFirstNode() {
+        sentence(34, "4 how many BLOCKS are in no LOG and EXTEND the last one of none (silent NODES', too)");
+        Votes x = Votes.liars(4);
+        x.forge(x.forge(x.forge(0, 1), 2), 3);
+        x.forge(x.forge(x.forge(0, 6), 7), 8);
+        x.ask(2, 1);
+        x.ask(3, 1);
+        due("the last of 0", x.node(0, 9), 1);
+        due("the last of 3", x.node(3, 9), 4);
+        due("1, 2, 3 are NODE 0's, 4, 5, 6 the others'", x.audit(4), 0);
+        x.lie(1, 1, 0, 1, 0);
+        due("one on 0 beside them", x.audit(4), 1);
     }
 
     // ---------------------------------------------------------------- 35: pending
@@ -785,6 +934,13 @@ public final class BoundsOfAnswers extends Bounds {
         dueRow("path 5", i -> x.path(5, i), 0, 1, 4, 5, NONE);
         dueRow("path 3", i -> x.path(3, i), 0, 1, 2, 3, NONE);
         dueRow("path 0", i -> x.path(0, i), 0, NONE);
+    }
+
+    static void pathOfGaps() {
+        sentence(36, "The BLOCK of HEIGHT i in the CHAIN of a BLOCK. NONE if there is none such.");
+        Votes x = gaps();
+        dueRow("path 3", i -> x.path(3, i), 0, 1, 2, 3, NONE, NONE, NONE, NONE, NONE, NONE);
+        dueRow("path 2", i -> x.path(2, i), 0, 1, 2, NONE, NONE, NONE);
     }
 
     static void pathOf100Blocks() {
@@ -838,6 +994,64 @@ public final class BoundsOfAnswers extends Bounds {
         due("the LOCK of the greatest VIEW, of 4 and 2", x.best(1), 2);
         x.mode(0, 1);
         due("of 4 alone", x.best(1), 4);
+    }
+
+    static void bestByView() {
+        sentence(38, "What 0 the CERTIFIED BLOCK of the greatest VIEW, 1 the LOCK of the greatest VIEW, 2 the HIGH of the least VIEW");
+        Votes x = Votes.liars(4);
+        x.forge(0, 1);
+        due("one CERTIFIED BLOCK beside 0", x.best(0), 1);
+        x.ask(1, 2);
+        x.ask(3, 2);
+        due("the HIGH of NODE 0 alone is 0", x.best(2), 0);
+        Votes y = Votes.liars(4);
+        y.forge(y.forge(0, 9), 10);
+        y.forge(y.forge(0, 3), 4);
+        due("BLOCK 2 is of VIEW 10", y.best(0), 2);
+        due("LOCK of 3 is 1, of VIEW 9, LOCK of 1 is 3, of VIEW 3", y.best(1), 1);
+        y.mode(0, 1);
+        y.mode(2, 1);
+        due("HIGH of 3 is 2, of VIEW 10, HIGH of 1 is 4, of VIEW 4", y.best(2), 4);
+    }
+
+    /** HEIGHTS say nothing of a LOCK, VIEWS nothing of a LOG. */
+    static void bestByViewOrHeight() {
+        sentence(38, "1 the LOCK of the greatest VIEW, 2 the HIGH of the least VIEW, 3 the last of a LOG of the greatest HEIGHT");
+        Votes x = Votes.liars(4);
+        x.forge(x.forge(x.forge(x.forge(0, 1), 2), 3), 4);
+        due("the last of 1: VIEW 2, HEIGHT 2", x.node(1, 9), 2);
+        int e = x.forge(0, 9);
+        x.forge(x.forge(e, 10), 11);
+        due("FORKS of 0: it has had BLOCK 1 as the last", x.node(0, 10), 1);
+        x.ask(2, 0);
+        due("the last of 2: VIEW 9, HEIGHT 1", x.node(2, 9), e);
+        x.mode(0, 1);
+        due("LOG", x.best(3), 2);
+        Votes y = Votes.liars(4);
+        y.forge(y.forge(y.forge(0, 1), 2), 3);
+        int d = y.forge(0, 9);
+        y.forge(d, 10);
+        due("LOCK of 0: VIEW 2, HEIGHT 2", y.node(0, 6), 2);
+        due("LOCK of 3: VIEW 9, HEIGHT 1", y.node(3, 6), d);
+        due("LOCK", y.best(1), d);
+    }
+
+    static void bestByOne() {
+        sentence(38, "1 the LOCK of the greatest VIEW, 2 the HIGH of the least VIEW, 3 the last of a LOG of the greatest HEIGHT");
+        Votes x = new Votes();
+        x.calm(4);
+        due("NODE 1's LOCK is one VIEW above the others'", x.best(1), 3);
+        due("the others' HIGH is one VIEW below NODE 1's", x.best(2), 3);
+        due("NODE 1's LOG is one longer", x.best(3), 2);
+        Votes y = new Votes();
+        y.calm(3);
+        due("NODE 0's LOCK", y.best(1), 2);
+        due("NODE 0's LOG", y.best(3), 1);
+    }
+
+    static void bestOf100Blocks() {
+        sentence(38, "What 0 the CERTIFIED BLOCK of the greatest VIEW");
+        dueRow("best", hundredBlocks()::best, 99, 98, 98, 97, NONE);
     }
 
     static void bestOfLogs() {
@@ -920,6 +1134,86 @@ public final class BoundsOfAnswers extends Bounds {
         dueSoon(() -> oneAhead(6, 2, 1, 14), 21);
     }
 
+    /** BLOCK 1 is under way: the first round delivers it ahead of who PROPOSES. */
+    static void soonDeliversFirst() {
+        sentence(39, "SOON: by CALM of how few rounds (1 .. 20) the LOG of some honest NODE gets longer (NONE).");
+        dueSoon(() -> {
+            Votes x = new Votes();
+            x.propose(1, 0);
+            return x;
+        }, 2);
+    }
+
+    /** NODE 4 lags; its vote, without which there is no QUORUM, is got by a PROVED BLOCK that is under way. */
+    static void soonByAProvedBlock() {
+        sentence(39, "SOON: by CALM of how few rounds (1 .. 20) the LOG of some honest NODE gets longer (NONE).");
+        dueSoon(() -> {
+            Votes x = new Votes();
+            x.nodes(5);
+            for (int i = 0; i < 4; i++) x.timeout(i);
+            x.lose(4);
+            x.deliverAll();
+            x.propose(2, 0);
+            x.mode(1, 1);
+            return x;
+        }, 2);
+    }
+
+    /** All have committed BLOCK 1; what goes on is a branch beside it, so that no LOG gets longer. */
+    static void soonOnAnotherBranch() {
+        sentence(39, "the LOG of some honest NODE gets longer (NONE)");
+        Votes x = Votes.liars(4);
+        x.forge(x.forge(x.forge(0, 1), 2), 3);
+        for (int i = 1; i < 4; i++) x.ask(i, 0);
+        x.forge(x.forge(x.forge(0, 6), 7), 8);
+        for (int i = 0; i < 4; i++) x.ask(i, 1);
+        for (int i = 0; i < 4; i++) x.mode(i, 0);
+        due("LOGS", x.audit(2), 2);
+        due("soon()", x.soon(), NONE);
+        due("soon() again", x.soon(), NONE);
+        due("calm(20)", x.calm(20), 0);
+        due("BLOCKS", x.look(3), 27);
+    }
+
+    /** SOON by the document's own words, on twins: CALM of 1, 2, .. rounds. */
+    private static int soonByCalm(Supplier<Votes> made) {
+        int n = made.get().look(0);
+        int[] before = new int[n];
+        Votes plain = made.get();
+        for (int i = 0; i < n; i++) before[i] = plain.node(i, 8);
+        for (int r = 1; r <= 20; r++) {
+            Votes x = made.get();
+            x.calm(r);
+            if (isLonger(x, before)) return r;
+        }
+        return NONE;
+    }
+
+    private static Votes unrest(int seed) {
+        Votes x = new Votes();
+        int n = 4 + seed % 4;
+        x.nodes(n);
+        x.leaders(seed / 4 % 3);
+        x.state(seed * 7919);
+        if (seed % 5 == 0) x.mode(seed / 5 % n, 1);
+        if (seed % 3 == 0) x.mode(seed / 3 % n, 2);
+        for (int i = 0; i < 3; i++) {
+            for (int j = 0; j < n; j++) if (x.node(j, 11) == 1) x.propose(j, seed);
+            x.storm(10, 1 + seed % 3);
+            x.timeout((seed + i) % n);
+            x.turn(x.look(4) / 2);
+        }
+        return x;
+    }
+
+    static void soonOfUnrest() {
+        sentence(39, "SOON: by CALM of how few rounds (1 .. 20) the LOG of some honest NODE gets longer (NONE).");
+        for (int seed = 0; seed < 60; seed++) {
+            int s = seed;
+            due("soon() behind unrest " + seed, unrest(seed).soon(), soonByCalm(() -> unrest(s)));
+        }
+    }
+
     static void soonNever() {
         sentence(39, "the LOG of some honest NODE gets longer (NONE)");
         Votes x = new Votes();
@@ -993,6 +1287,17 @@ public final class BoundsOfAnswers extends Bounds {
         due("5 and 2", x.two(5, 2, 1), 1);
         due("2 and 3", x.two(2, 3, 1), 2);
         due("3 and 2", x.two(3, 2, 1), 2);
+    }
+
+    static void twoByParent() {
+        sentence(40, "a EXTENDS b: b is a, or PARENT of a EXTENDS b.");
+        Votes x = gaps();
+        x.lie(1, 3, 1, 5, 0);
+        due("3 EXTENDS 1", x.two(3, 1, 0), 1);
+        due("3 EXTENDS 2", x.two(3, 2, 0), 1);
+        due("4 EXTENDS 2", x.two(4, 2, 0), 0);
+        due("COMMON of 3 and 4", x.two(3, 4, 1), 1);
+        due("COMMON of 4 and 3", x.two(4, 3, 1), 1);
     }
 
     static void twoOf100Blocks() {
@@ -1113,6 +1418,14 @@ public final class BoundsOfAnswers extends Bounds {
         dueRow("chain 1", w -> x.chain(1, w), 2, 7, 1, 1, 0, 2, 0, NONE);
     }
 
+    static void chainOfBlockZeroAlone() {
+        sentence(42, "3 the greatest HEIGHT of these");
+        Votes x = new Votes();
+        dueRow("chain 0", w -> x.chain(0, w), 1, 0, 1, 0, 4, 1, 4, NONE);
+        x.nodes(7);
+        dueRow("chain 0 of seven", w -> x.chain(0, w), 1, 0, 1, 0, 7, 1, 7, NONE);
+    }
+
     static void chainOf100Blocks() {
         sentence(42, "0 how many it EXTENDS (itself, too), 1 all their PAYLOADS, 2 how many BLOCKS EXTEND it (itself, too), 3 the greatest HEIGHT of these");
         Votes x = hundredBlocks();
@@ -1121,6 +1434,23 @@ public final class BoundsOfAnswers extends Bounds {
         due("chain(97, 4): NODE 0 alone has it", x.chain(97, 4), 1);
         due("chain(98, 6): NODE 0's LOCK", x.chain(98, 6), 1);
         due("chain(100, 0)", x.chain(100, 0), NONE);
+    }
+
+    static void chainOfGaps() {
+        sentence(42, "0 how many it EXTENDS (itself, too), 1 all their PAYLOADS, 2 how many BLOCKS EXTEND it (itself, too), 3 the greatest HEIGHT of these");
+        Votes x = gaps();
+        dueRow("chain 3", w -> x.chain(3, w), 4, 21, 1, 3, 0, 1, 0);
+        dueRow("chain 1", w -> x.chain(1, w), 2, 5, 3, 3, 0, 2, 0);
+        dueRow("chain 0", w -> x.chain(0, w), 1, 0, 4, 3, 4, 1, 4);
+    }
+
+    static void chainCommittedBehindGaps() {
+        sentence(42, "4 by how many NODES it is committed");
+        Votes x = Votes.liars(4);
+        x.forge(x.forge(x.forge(0, 5), 6), 7);
+        dueRow("committed", b -> x.chain(b, 4), 4, 1, 0, 0, NONE);
+        x.ask(1, 0);
+        dueRow("committed", b -> x.chain(b, 4), 4, 2, 0, 0, NONE);
     }
 
     static void chainInARow() {
@@ -1293,6 +1623,124 @@ public final class BoundsOfAnswers extends Bounds {
         due("the last of EVENTS", x.event(99, 0), 5);
     }
 
+    static void imageOfForks() {
+        sentence(43, "THE IMAGE: all that is and was told");
+        Votes x = Votes.liars(4);
+        x.forge(x.forge(x.forge(0, 1), 2), 3);
+        x.forge(x.forge(x.forge(0, 6), 7), 8);
+        x.image(true);
+        for (int i = 0; i < 2; i++) {
+            x.ask(0, 1);
+            due("FORKS of 0", x.node(0, 10), 1);
+            due("EVENTS", x.look(15), 9);
+            x.image(false);
+            due("FORKS of 0", x.node(0, 10), 0);
+            due("FORKS of all", x.look(8), 0);
+            due("EVENTS", x.look(15), 8);
+            due("no EVENT more", x.event(8, 0), NONE);
+        }
+    }
+
+    static void imageOfNodesAndBlocks() {
+        sentence(43, "THE IMAGE: all that is and was told");
+        Votes x = new Votes();
+        x.calm(3);
+        x.image(true);
+        x.calm(3);
+        x.timeout(0);
+        x.image(false);
+        dueRow("node 0", w -> x.node(0, w), 0, 4, 3, 0, 0, 3, 2, 0, 2, 1, 0, 1, 1);
+        dueRow("node 3", w -> x.node(3, w), 0, 3, 3, 3, 0, 2, 1, 0, 1, 0, 0, 0, 1);
+        Votes y = gaps();
+        y.image(true);
+        y.lie(2, 3, 3, 10, 0);
+        y.image(false);
+        dueRow("PARENT", b -> y.block(b, 1), NONE, 0, 1, 2, NONE);
+        dueRow("JUSTIFY", b -> y.block(b, 2), 0, 0, 0, 0, NONE);
+    }
+
+    static void imageOfLogs() {
+        sentence(43, "THE IMAGE: all that is and was told");
+        Votes x = Votes.liars(4);
+        x.forge(x.forge(x.forge(0, 1), 2), 3);
+        x.forge(x.forge(x.forge(0, 6), 7), 8);
+        x.image(true);
+        x.lie(0, 2, 3, 50, 0);
+        x.deliver(2);
+        due("the last of 2", x.node(2, 9), 1);
+        x.image(false);
+        due("the last of 2", x.node(2, 9), 0);
+        due("LOG of 2", x.log(2, 1), NONE);
+        x.ask(2, 1);
+        due("the last of 2", x.node(2, 9), 4);
+        due("LOG of 2", x.log(2, 1), 4);
+    }
+
+    static void imageOfEvidence() {
+        sentence(43, "THE IMAGE: all that is and was told");
+        Votes x = Votes.liars(4);
+        for (int i = 0; i < 3; i++) x.lie(1, 1, 0, 1, 0);
+        x.deliver(0);
+        x.deliver(3);
+        due("lines", x.look(6), 1);
+        x.image(true);
+        x.deliver(6);
+        due("lines", x.look(6), 2);
+        due("BLOCKS proposed to 0", x.since(0, 4), 3);
+        x.image(false);
+        due("lines", x.look(6), 1);
+        due("no line more", x.evidence(1, 0), NONE);
+        due("BLOCKS proposed to 0", x.since(0, 4), 2);
+        x.deliver(0);
+        x.deliver(2);
+        due("lines", x.look(6), 2);
+        dueRow("line 1", w -> x.evidence(1, w), 1, 1, 1, 1, 2);
+    }
+
+    static void imageOfCounts() {
+        sentence(43, "THE IMAGE: all that is and was told");
+        Votes x = Votes.liars(4);
+        x.cut(0, 1, true);
+        x.fill(2, 200);
+        x.lie(0, 2, 0, 1, 0);
+        x.deliver(0);
+        x.image(true);
+        x.lie(3, 2, 0, 1, 0);
+        x.lie(0, 2, 0, 1, 0);
+        x.deliver(0);
+        due("LOST", x.look(5), 3 + 3 + 3);
+        due("CUT", x.look(19), 2);
+        due("delivered", x.look(11), 2);
+        x.image(false);
+        due("LOST", x.look(5), 3);
+        due("CUT", x.look(19), 1);
+        due("delivered", x.look(11), 1);
+        due("MESSAGES", x.look(4), 199);
+        due("the first's TO", x.message(0, 1), 1);
+        due("the last's TO", x.message(198, 1), 3);
+    }
+
+    static void imageOfTheLastViewAndBlock() {
+        sentence(43, "THE IMAGE: all that is and was told");
+        Votes x = Votes.liars(4);
+        x.blocksTill(100);
+        x.image(true);
+        x.lie(0, 2, 0, 200, 0);
+        x.lie(0, 2, 0, 1, 0);
+        x.lie(0, 0, 99, 0, 0);
+        x.deliverAll();
+        x.certify(99);
+        due("TIMEOUTS for VIEW 200", x.timeouts(0, 200), 1);
+        due("MARKS for BLOCK 99", x.marks(2, 99), 3);
+        due("CERTIFIED", x.block(99, 7), 1);
+        x.image(false);
+        due("TIMEOUTS for VIEW 200", x.timeouts(0, 200), 0);
+        due("TIMEOUTS for VIEW 1", x.timeouts(0, 1), 0);
+        due("MARKS for BLOCK 99", x.marks(2, 99), 0);
+        due("CERTIFIED", x.block(99, 7), 0);
+        due("HIGH of 2", x.node(2, 5), 0);
+    }
+
     static void imageStaysBesideNodes() {
         sentence(43, "gone back to it may be more than once");
         Votes x = new Votes();
@@ -1364,6 +1812,8 @@ public final class BoundsOfAnswers extends Bounds {
         due("of 0", x.look(8), 1);
         x.ask(2, 1);
         due("of 0 and 2", x.look(8), 2);
+        int last = x.look(15) - 1;
+        dueRow("the EVENT of 2", w -> x.event(last, w), 4, 2, 4);
         x.mode(2, 1);
         due("a silent one's, too", x.look(8), 2);
     }
@@ -1381,6 +1831,18 @@ public final class BoundsOfAnswers extends Bounds {
         Votes y = Votes.liars(4);
         y.toView(201);
         due("201", y.look(12), 201);
+    }
+
+    static void lookGreatestViewOfTheFirst() {
+        sentence(44, "12 the greatest VIEW of a NODE that is not silent (none: 0)");
+        Votes x = new Votes();
+        x.calm(3);
+        due("NODE 0's", x.look(12), 4);
+        Votes y = new Votes();
+        y.nodes(7);
+        y.calm(5);
+        due("NODE 6's, of seven", y.look(12), 6);
+        dueRow("look", y::look, 7, 2, 5, 6, 0, 0, 0, 0, 0);
     }
 
     static void lookCertified() {

@@ -288,7 +288,8 @@ public final class BoundsOfPlans extends Bounds {
 
     static void planLetters() {
         sentence(21, "letters (a .. z, A .. Z) as many as stand together are those words or none");
-        for (String word : new String[] {"los", "loses", "Lose", "LOSE", "losE", "aose", "zose", "l", "x", "loselose", "AZaz"}) {
+        for (String word : new String[] {"los", "loses", "Lose", "LOSE", "losE", "aose", "zose", "l", "x", "loselose", "AZaz",
+            "losea", "losez", "loseA", "loseZ", "losem", "loseM"}) {
             dueFault(word + " 0;", 1, 0);
         }
         dueFault("los e 0;", 1, 0);
@@ -564,6 +565,19 @@ public final class BoundsOfPlans extends Bounds {
         due("of seven NODES", y.run(3), 3);
     }
 
+    static void runLose() {
+        sentence(23, "one by one as if called (what is refused is passed over");
+        Votes x = new Votes();
+        x.timeout(0);
+        x.timeout(1);
+        x.mode(2, 1);
+        x.planOf("lose 2;lose 3;");
+        due("of a silent NODE", x.run(1), 1);
+        dueRow("TO", i -> x.message(i, 1), 0, 1, 3, 0, 1, 3, NO_MESSAGE);
+        due("of another", x.run(1), 1);
+        dueRow("TO", i -> x.message(i, 1), 0, 1, 0, 1, NO_MESSAGE);
+    }
+
     static void runDeliverFewer() {
         sentence(23, "so many of the first ones, one behind the other; fewer, if there are fewer");
         Votes x = new Votes();
@@ -577,6 +591,18 @@ public final class BoundsOfPlans extends Bounds {
         due("MESSAGES", x.look(4), 0);
         due("delivered", x.look(11), 8);
         due("one of none", x.run(1), 0);
+    }
+
+    static void runDeliverOne() {
+        sentence(23, "so many of the first ones, one behind the other; fewer, if there are fewer");
+        Votes x = new Votes();
+        x.timeout(0);
+        x.planOf("deliver 1;deliver 2;deliver 50;");
+        due("one of four", x.run(1), 1);
+        due("the first", x.timeouts(0, 1), 1);
+        due("two of three", x.run(1), 1);
+        due("fifty of one", x.run(1), 1);
+        due("delivered", x.look(11), 4);
     }
 
     /** Read as deliver(0) so many times: marks that come meanwhile stand behind and are delivered in their turn. */
@@ -618,6 +644,23 @@ public final class BoundsOfPlans extends Bounds {
         due("drop 50", x.run(1), 1);
         due("MESSAGES", x.look(4), 20);
         due("delivered", x.look(11), 50);
+    }
+
+    /** A full row, of which the first ones go by plan: what is left stands in its order. */
+    static void runDropOfAFullRow() {
+        sentence(23, "K 1 .. 50 (so many of the first ones");
+        Votes x = Votes.liars(4);
+        for (int v = 1; v <= 50; v++) x.lie(0, 2, 0, v, 0);
+        x.planOf("drop 50;drop 50;drop 49;");
+        due("run(3)", x.run(3), 3);
+        due("MESSAGES", x.look(4), 51);
+        due("the first's VIEW", x.message(0, 3), 38);
+        due("the first's TO", x.message(0, 1), 1);
+        due("the last's VIEW", x.message(50, 3), 50);
+        for (int v = 51; v <= 87; v++) x.lie(0, 2, 0, v, 0);
+        due("MESSAGES", x.look(4), 199);
+        due("the last's VIEW", x.message(198, 3), 87);
+        due("LOST", x.look(5), 0);
     }
 
     static void runTurn() {

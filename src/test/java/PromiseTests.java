@@ -21,28 +21,28 @@ public final class PromiseTests {
     // ---------------------------------------------------------------- helpers
 
     /** An object in which these NODES lie. */
-    private static ChainVotes liars(int... who) {
-        ChainVotes x = new ChainVotes();
+    private static Votes liars(int... who) {
+        Votes x = new Votes();
         for (int i : who) x.mode(i, 2);
         return x;
     }
 
-    private static void deliverAll(ChainVotes x) {
+    private static void deliverAll(Votes x) {
         while (x.deliver(0) != NONE) { }
     }
 
-    private static void emptyNet(ChainVotes x) {
+    private static void emptyNet(Votes x) {
         for (int i = 0; i < x.look(0); i++) x.lose(i);
     }
 
     /** Brings all NODES of an object with four liars to a VIEW by timeouts for the VIEW ahead. */
-    private static void goToView(ChainVotes x, int view) {
+    private static void goToView(Votes x, int view) {
         for (int i = 0; i < x.look(2); i++) x.lie(i, 2, 0, view - 1, 0);
         deliverAll(x);
     }
 
     /** A BLOCK on a certified one, by a lie, certified by lies too; its number. */
-    private static int forge(ChainVotes x, int on, int view) {
+    private static int forge(Votes x, int on, int view) {
         int b = x.lie(view % x.look(0), 1, on, view, 0);
         emptyNet(x);
         for (int i = 0; i < x.look(2); i++) x.lie(i, 0, b, 0, 0);
@@ -51,7 +51,7 @@ public final class PromiseTests {
     }
 
     /** Puts a text on the TAPE. */
-    private static void write(ChainVotes x, String text) {
+    private static void write(Votes x, String text) {
         x.end(0);
         int full = (text.length() + 19) / 20 * 20;
         int[] n = new int[full / 4];
@@ -60,14 +60,14 @@ public final class PromiseTests {
         due("end of '" + text + "'", x.end(text.length()), true);
     }
 
-    private static int plan(ChainVotes x, String text) {
+    private static int plan(Votes x, String text) {
         write(x, text);
         return x.plan();
     }
 
     /** The plan is refused for that FAULT at that place. */
     private static void faulty(String text, int fault, int place) {
-        ChainVotes x = new ChainVotes();
+        Votes x = new Votes();
         plan(x, "calm 1;calm 2;");
         due("plan '" + text + "'", plan(x, text), NONE);
         due("fault(0) of '" + text + "'", x.fault(0), fault);
@@ -85,7 +85,7 @@ public final class PromiseTests {
 
     private static void newObject() {
         promise = 1;
-        ChainVotes x = new ChainVotes();
+        Votes x = new Votes();
         int[] looks = {4, 1, 3, 1, 0, 0, 0, 0, 0, 0, 0, 0, 1, 1, 0, 0, 0, 0, 0, 0, 0};
         for (int w = 0; w < looks.length; w++) due("look(" + w + ")", x.look(w), looks[w]);
         int[] zero = {0, -1, 0, 0, -1, 0, 0, 1};
@@ -99,7 +99,7 @@ public final class PromiseTests {
 
     private static void nodes() {
         promise = 2;
-        ChainVotes x = new ChainVotes();
+        Votes x = new Votes();
         int[] faults = {1, 1, 1, 2};
         int[] quorums = {3, 4, 5, 5};
         for (int n = 4; n <= 7; n++) {
@@ -115,7 +115,7 @@ public final class PromiseTests {
         due("nodes(MIN)", x.nodes(MIN), false);
         due("look(0) stays", x.look(0), 7);
 
-        x = new ChainVotes();
+        x = new Votes();
         plan(x, "timeout 0;timeout 1;timeout 2;timeout 3;");
         x.run(4);
         due("not with messages", x.nodes(4), false);
@@ -154,7 +154,7 @@ public final class PromiseTests {
 
     private static void mode() {
         promise = 3;
-        ChainVotes x = new ChainVotes();
+        Votes x = new Votes();
         for (int m = 0; m <= 2; m++) {
             due("mode(3, " + m + ")", x.mode(3, m), true);
             due("node(3, 0)", x.node(3, 0), m);
@@ -182,7 +182,7 @@ public final class PromiseTests {
 
     private static void propose() {
         promise = 4;
-        ChainVotes x = new ChainVotes();
+        Votes x = new Votes();
         due("not the leader", x.propose(0, 0), NONE);
         due("no node", x.propose(4, 0), NONE);
         due("no node -1", x.propose(-1, 0), NONE);
@@ -207,7 +207,7 @@ public final class PromiseTests {
         due("not proved", x.block(2, 6), 0);
         due("height", x.block(2, 5), 2);
 
-        x = new ChainVotes();
+        x = new Votes();
         for (int i = 0; i < 4; i++) x.timeout(i);
         deliverAll(x);
         due("behind a proof", x.propose(2, 5), 1);
@@ -227,8 +227,8 @@ public final class PromiseTests {
         x = liars(1);
         for (int i = 1; i < 100; i++) {
             due("block " + i, x.lie(1, 1, 0, 1, 0), i);
-            emptyNet(x);
         }
+        emptyNet(x);
         due("100 blocks", x.look(3), 100);
         due("no more", x.propose(1, 0), NONE);
         due("can't", x.node(1, 11), 0);
@@ -250,7 +250,7 @@ public final class PromiseTests {
     /** A NODE whose HIGH is not of the VIEW ahead, but above it, has no ground to propose. */
     private static void proposeWithoutGround() {
         promise = 4;
-        ChainVotes x = liars(0, 1, 2, 3);
+        Votes x = liars(0, 1, 2, 3);
         int high = forge(x, 0, 5);
         x.lie(0, 2, high, 1, 0);
         deliverAll(x);
@@ -287,7 +287,7 @@ public final class PromiseTests {
 
     private static void timeout() {
         promise = 5;
-        ChainVotes x = new ChainVotes();
+        Votes x = new Votes();
         due("no node", x.timeout(4), false);
         due("no node -1", x.timeout(-1), false);
         due("first", x.timeout(2), true);
@@ -308,7 +308,7 @@ public final class PromiseTests {
         due("silent stays", x.node(3, 1), 1);
         due("again in VIEW 2", x.timeout(2), true);
 
-        x = new ChainVotes();
+        x = new Votes();
         x.propose(1, 0);
         x.timeout(0);
         x.deliver(0);
@@ -327,7 +327,7 @@ public final class PromiseTests {
 
     private static void lieMarksAndTimeouts() {
         promise = 6;
-        ChainVotes x = liars(1, 3);
+        Votes x = liars(1, 3);
         due("honest", x.lie(0, 0, 0, 0, 0), NONE);
         due("mark for 0", x.lie(1, 0, 0, 0, 0), NONE);
         due("mark for none", x.lie(1, 0, 1, 0, 0), NONE);
@@ -360,7 +360,7 @@ public final class PromiseTests {
 
     private static void lieBlocks() {
         promise = 6;
-        ChainVotes x = liars(1, 3);
+        Votes x = liars(1, 3);
         due("not leader", x.lie(1, 1, 0, 2, 0), NONE);
         due("view 0", x.lie(1, 1, 0, 0, 0), NONE);
         due("view -3", x.lie(1, 1, 0, -3, 0), NONE);
@@ -386,8 +386,8 @@ public final class PromiseTests {
         emptyNet(x);
         for (int b = 5; b < 100; b++) {
             due("block " + b, x.lie(0, b % 2 == 0 ? 1 : 3, 0, 200, 0), b);
-            emptyNet(x);
         }
+        emptyNet(x);
         due("101st", x.lie(0, 1, 0, 200, 0), NONE);
         due("101st as 3", x.lie(0, 3, 0, 200, 0), NONE);
         due("a mark still", x.lie(0, 0, 99, 0, 0), 0);
@@ -396,7 +396,7 @@ public final class PromiseTests {
 
     private static void deliver() {
         promise = 7;
-        ChainVotes x = new ChainVotes();
+        Votes x = new Votes();
         due("none", x.deliver(0), NONE);
         x.propose(1, 0);
         due("-1", x.deliver(-1), NONE);
@@ -419,7 +419,7 @@ public final class PromiseTests {
     /** What a BLOCK does: VIEWS and votes, step (c) and (d). */
     private static void deliverBlocks() {
         promise = 7;
-        ChainVotes x = liars(0, 1, 2, 3);
+        Votes x = liars(0, 1, 2, 3);
         // Neither certificate of the VIEW ahead nor proof: the NODE stays where it is and does not vote.
         x.lie(3, 1, 0, 3, 0);
         x.deliver(0);
@@ -441,7 +441,7 @@ public final class PromiseTests {
         due("no way back", x.node(0, 1), 6);
         due("no vote behind", x.node(0, 2), 0);
         // A certificate of the VIEW ahead takes along one who lagged.
-        x = new ChainVotes();
+        x = new Votes();
         x.propose(1, 0);
         x.drop(0);
         deliverAll(x);
@@ -453,7 +453,7 @@ public final class PromiseTests {
         due("voted", x.node(0, 2), 2);
         due("mark to 3", x.message(3, 1), 3);
         // PROVED takes along one who lagged, too.
-        x = new ChainVotes();
+        x = new Votes();
         for (int i = 0; i < 3; i++) x.timeout(i);
         x.lose(3);
         deliverAll(x);
@@ -483,7 +483,7 @@ public final class PromiseTests {
     /** LOCK and SAFE: a BLOCK that goes around the LOCK is not voted for, and that is an EVENT. */
     private static void deliverUnsafe() {
         promise = 7;
-        ChainVotes x = liars(0, 1, 2, 3);
+        Votes x = liars(0, 1, 2, 3);
         int a = forge(x, 0, 1);
         int b = forge(x, a, 2);
         int c = forge(x, b, 3);
@@ -510,7 +510,7 @@ public final class PromiseTests {
 
     private static void learnAndCommit() {
         promise = 7;
-        ChainVotes x = liars(0, 1, 2, 3);
+        Votes x = liars(0, 1, 2, 3);
         int a = forge(x, 0, 1);
         int b = forge(x, a, 2);
         int d = forge(x, b, 4);
@@ -562,7 +562,7 @@ public final class PromiseTests {
 
     private static void deliverMarks() {
         promise = 7;
-        ChainVotes x = liars(0, 1, 2, 3);
+        Votes x = liars(0, 1, 2, 3);
         x.lie(1, 1, 0, 1, 0);
         emptyNet(x);
         for (int i = 0; i < 3; i++) {
@@ -599,7 +599,7 @@ public final class PromiseTests {
 
     private static void deliverTimeouts() {
         promise = 7;
-        ChainVotes x = liars(0, 1, 2, 3);
+        Votes x = liars(0, 1, 2, 3);
         int a = forge(x, 0, 1);
         int b = forge(x, a, 2);
         due("HIGH of 0", x.node(0, 5), 0);
@@ -646,7 +646,7 @@ public final class PromiseTests {
 
     private static void drop() {
         promise = 8;
-        ChainVotes x = new ChainVotes();
+        Votes x = new Votes();
         due("none", x.drop(0), NONE);
         x.propose(1, 0);
         x.timeout(3);
@@ -666,7 +666,7 @@ public final class PromiseTests {
 
     private static void lose() {
         promise = 9;
-        ChainVotes x = new ChainVotes();
+        Votes x = new Votes();
         due("none", x.lose(0), 0);
         due("4", x.lose(4), NONE);
         due("-1", x.lose(-1), NONE);
@@ -686,7 +686,7 @@ public final class PromiseTests {
 
     private static void leaders() {
         promise = 10;
-        ChainVotes x = new ChainVotes();
+        Votes x = new Votes();
         due("3", x.leaders(3), NONE);
         due("-1", x.leaders(-1), NONE);
         due("1", x.leaders(1), 0);
@@ -705,7 +705,7 @@ public final class PromiseTests {
         x.lie(3, 0, 1, 0, 0);
         due("VIEW 2's leader by 2", x.message(0, 1), 0);
 
-        x = new ChainVotes();
+        x = new Votes();
         x.nodes(5);
         x.leaders(1);
         int[] of = {0, 1, 1, 2, 2, 3, 3, 4, 4, 0, 0};
@@ -718,7 +718,7 @@ public final class PromiseTests {
 
     private static void cut() {
         promise = 11;
-        ChainVotes x = new ChainVotes();
+        Votes x = new Votes();
         due("alike", x.cut(2, 2, true), false);
         due("none such", x.cut(0, 4, true), false);
         due("none such", x.cut(-1, 0, true), false);
@@ -760,7 +760,7 @@ public final class PromiseTests {
 
     private static void reach() {
         promise = 12;
-        ChainVotes x = new ChainVotes();
+        Votes x = new Votes();
         due("all", x.reach(0), 15);
         x.nodes(7);
         due("all of 7", x.reach(6), 127);
@@ -779,7 +779,7 @@ public final class PromiseTests {
 
     private static void since() {
         promise = 13;
-        ChainVotes x = new ChainVotes();
+        Votes x = new Votes();
         int[] fresh = {1, 0, 1, 1, 0, 0, 0};
         for (int w = 0; w < 7; w++) due("fresh " + w, x.since(3, w), fresh[w]);
         due("7", x.since(0, 7), NO_NUMBER);
@@ -820,7 +820,7 @@ public final class PromiseTests {
 
     private static void state() {
         promise = 14;
-        ChainVotes x = new ChainVotes();
+        Votes x = new Votes();
         due("at first", x.state(MIN), 0);
         due("look", x.look(14), MIN);
         due("then", x.state(MAX), MIN);
@@ -831,7 +831,7 @@ public final class PromiseTests {
 
     private static void ask() {
         promise = 15;
-        ChainVotes x = new ChainVotes();
+        Votes x = new Votes();
         due("alike", x.ask(1, 1), false);
         due("none", x.ask(0, 4), false);
         due("none", x.ask(4, 0), false);
@@ -856,7 +856,7 @@ public final class PromiseTests {
         due("event 3", x.event(events, 0), 3);
         due("delivered stays", x.look(11), 24);
         // PROOF by it, without an EVENT; the one that was asked stays.
-        x = new ChainVotes();
+        x = new Votes();
         for (int i = 0; i < 3; i++) x.timeout(i);
         x.lose(3);
         deliverAll(x);
@@ -885,14 +885,14 @@ public final class PromiseTests {
 
     private static void storm() {
         promise = 16;
-        ChainVotes x = new ChainVotes();
+        Votes x = new Votes();
         due("0", x.storm(0, 0), NONE);
         due("41", x.storm(41, 0), NONE);
         due("d -1", x.storm(1, -1), NONE);
         due("d 10", x.storm(1, 10), NONE);
         due("none", x.storm(40, 9), 0);
         for (int seed = -3; seed < 40; seed++) {
-            x = new ChainVotes();
+            x = new Votes();
             x.state(seed * 1000003);
             x.timeout(0);
             x.timeout(1);
@@ -907,7 +907,7 @@ public final class PromiseTests {
             due("that one is out, its follower in its place", x.message(k, 1), k == 7 ? -2 : (k + 1) % 4);
             due("noted", x.timeouts(k % 4, 1), dropped ? 0 : 1);
         }
-        x = new ChainVotes();
+        x = new Votes();
         x.propose(1, 0);
         due("all and their marks", x.storm(40, 0), 8);
         due("none left", x.look(4), 0);
@@ -925,7 +925,7 @@ public final class PromiseTests {
 
     private static void turn() {
         promise = 17;
-        ChainVotes x = new ChainVotes();
+        Votes x = new Votes();
         due("0 of 0", x.turn(0), true);
         due("1 of 0", x.turn(1), false);
         due("-1", x.turn(-1), false);
@@ -961,7 +961,7 @@ public final class PromiseTests {
 
     private static void calm() {
         promise = 18;
-        ChainVotes x = new ChainVotes();
+        Votes x = new Votes();
         due("0", x.calm(0), NONE);
         due("21", x.calm(21), NONE);
         due("-1", x.calm(-1), NONE);
@@ -977,13 +977,13 @@ public final class PromiseTests {
         due("blocks", x.look(3), 26);
         due("none left", x.look(4), 0);
         // Delivered first, in the first round.
-        x = new ChainVotes();
+        x = new Votes();
         x.propose(1, 77);
         x.calm(1);
         due("two blocks", x.look(3), 3);
         due("VIEW 2", x.block(2, 0), 2);
         // Nobody can propose: all time out.
-        x = new ChainVotes();
+        x = new Votes();
         x.mode(1, 1);
         due("timeouts", x.calm(1), 0);
         due("VIEW", x.node(0, 1), 2);
@@ -997,7 +997,7 @@ public final class PromiseTests {
         x.calm(1);
         due("by 1", x.block(1, 4), 1);
         // 100 BLOCKS: timeouts.
-        x = new ChainVotes();
+        x = new Votes();
         for (int i = 0; i < 5; i++) x.calm(20);
         due("100 blocks", x.look(3), 100);
         due("timed", x.node(0, 4) > 0, true);
@@ -1013,7 +1013,7 @@ public final class PromiseTests {
 
     private static void feed() {
         promise = 19;
-        ChainVotes x = new ChainVotes();
+        Votes x = new Votes();
         for (int i = 1; i <= 20; i++) due("feed " + i, x.feed(i, -i, MIN, MAX, 0), 20 * i);
         due("more than 400", x.feed(1, 2, 3, 4, 5), NONE);
         due("has 400", x.end(400), true);
@@ -1023,7 +1023,7 @@ public final class PromiseTests {
         x.end(380);
         due("400", x.feed(1, 2, 3, 4, 5), 400);
         // The highest byte first: "calm 1;" and blanks.
-        x = new ChainVotes();
+        x = new Votes();
         x.feed(0x63616c6d, 0x20313b20, 0x20202020, 0x0a0a0a0a, 0x20200a20);
         due("the text", x.plan(), 1);
         // Bytes from 128 on are no letters.
@@ -1035,7 +1035,7 @@ public final class PromiseTests {
 
     private static void end() {
         promise = 20;
-        ChainVotes x = new ChainVotes();
+        Votes x = new Votes();
         due("0 of 0", x.end(0), true);
         due("1 of 0", x.end(1), false);
         due("-1", x.end(-1), false);
@@ -1050,7 +1050,7 @@ public final class PromiseTests {
 
     private static void plan() {
         promise = 21;
-        ChainVotes x = new ChainVotes();
+        Votes x = new Votes();
         due("empty", x.plan(), 0);
         due("blanks", plan(x, " \n \n"), 0);
         due("one", plan(x, "calm 1;"), 1);
@@ -1077,7 +1077,7 @@ public final class PromiseTests {
 
     private static void fault() {
         promise = 22;
-        ChainVotes x = new ChainVotes();
+        Votes x = new Votes();
         plan(x, "calm 21;");
         due("fault", x.fault(0), 2);
         due("place", x.fault(1), 5);
@@ -1165,7 +1165,7 @@ public final class PromiseTests {
 
     private static void run() {
         promise = 23;
-        ChainVotes x = new ChainVotes();
+        Votes x = new Votes();
         due("0", x.run(0), NONE);
         due("25", x.run(25), NONE);
         due("-1", x.run(-1), NONE);
@@ -1186,19 +1186,19 @@ public final class PromiseTests {
         due("at its end", x.run(24), 0);
 
         // So many of the first ones, one behind the other: the marks that come meanwhile, too.
-        x = new ChainVotes();
+        x = new Votes();
         plan(x, "propose 1 5;deliver 6;deliver 50;");
         due("two lines", x.run(2), 2);
         due("six delivered", x.look(11), 6);
         due("two left", x.look(4), 2);
         due("third", x.run(5), 1);
         due("eight delivered", x.look(11), 8);
-        x = new ChainVotes();
+        x = new Votes();
         plan(x, "propose 1 5;drop 3;drop 3;drop 1;");
         due("drops", x.run(4), 3);
         due("none left", x.look(4), 0);
         due("none delivered", x.look(11), 0);
-        x = new ChainVotes();
+        x = new Votes();
         plan(x, "propose 1 5;turn 2;lose 3;timeout 0;timeout 0;calm 4;");
         due("turn", x.run(2), 2);
         due("turned", x.message(0, 1), 2);
@@ -1224,7 +1224,7 @@ public final class PromiseTests {
 
     private static void node() {
         promise = 24;
-        ChainVotes x = new ChainVotes();
+        Votes x = new Votes();
         x.calm(4);
         int[] one = {0, 5, 4, 1, 0, 4, 3, 0, 3, 2, 0, 1, 1};
         for (int w = 0; w < one.length; w++) due("node(1, " + w + ")", x.node(1, w), one[w]);
@@ -1247,7 +1247,7 @@ public final class PromiseTests {
 
     private static void log() {
         promise = 25;
-        ChainVotes x = new ChainVotes();
+        Votes x = new Votes();
         due("first", x.log(0, 0), 0);
         due("second", x.log(0, 1), NONE);
         due("-1", x.log(0, -1), NONE);
@@ -1264,7 +1264,7 @@ public final class PromiseTests {
 
     private static void block() {
         promise = 26;
-        ChainVotes x = new ChainVotes();
+        Votes x = new Votes();
         due("none", x.block(1, 0), NONE);
         due("-1", x.block(-1, 0), NONE);
         due("what 8", x.block(0, 8), NONE);
@@ -1279,7 +1279,7 @@ public final class PromiseTests {
 
     private static void marksAndMarkers() {
         promise = 27;
-        ChainVotes x = new ChainVotes();
+        Votes x = new Votes();
         due("for 0", x.marks(0, 0), 0);
         due("for none", x.marks(0, 1), NONE);
         due("for -1", x.marks(0, -1), NONE);
@@ -1303,7 +1303,7 @@ public final class PromiseTests {
     }
 
     /** Delivers the marks alone. */
-    private static void deliverHalf(ChainVotes x) {
+    private static void deliverHalf(Votes x) {
         for (int i = x.look(4) - 1; i >= 0; i--) {
             if (x.message(i, 2) == 2) x.deliver(i);
         }
@@ -1311,7 +1311,7 @@ public final class PromiseTests {
 
     private static void timeouts() {
         promise = 28;
-        ChainVotes x = new ChainVotes();
+        Votes x = new Votes();
         due("0", x.timeouts(0, 0), NONE);
         due("201", x.timeouts(0, 201), NONE);
         due("of none", x.timeouts(4, 1), NONE);
@@ -1329,7 +1329,7 @@ public final class PromiseTests {
 
     private static void message() {
         promise = 29;
-        ChainVotes x = new ChainVotes();
+        Votes x = new Votes();
         due("none", x.message(0, 0), -2);
         x.propose(1, 0);
         due("what 5", x.message(0, 5), -2);
@@ -1366,7 +1366,7 @@ public final class PromiseTests {
 
     private static void evidence() {
         promise = 30;
-        ChainVotes x = liars(0, 1, 2, 3);
+        Votes x = liars(0, 1, 2, 3);
         due("none", x.evidence(0, 0), NONE);
         for (int i = 0; i < 25; i++) x.lie(1, 1, 0, 1, i);
         due("100 messages", x.look(4), 100);
@@ -1410,7 +1410,7 @@ public final class PromiseTests {
 
     private static void event() {
         promise = 31;
-        ChainVotes x = new ChainVotes();
+        Votes x = new Votes();
         due("none", x.event(0, 0), NONE);
         x.calm(1);
         int[][] lines = {{0, 0, 1}, {0, 1, 1}, {0, 2, 1}, {0, 3, 1}, {2, 2, 1}};
@@ -1430,7 +1430,7 @@ public final class PromiseTests {
 
     private static void ledger() {
         promise = 32;
-        ChainVotes x = new ChainVotes();
+        Votes x = new Votes();
         due("account -1", x.ledger(0, false, -1), NONE);
         due("account 5", x.ledger(0, true, 5), NONE);
         due("node 4", x.ledger(4, false, 0), NONE);
@@ -1458,14 +1458,14 @@ public final class PromiseTests {
 
     /** ACCOUNT of a single PAYLOAD's own behind it. */
     private static int ledgerOf(int payload) {
-        ChainVotes x = new ChainVotes();
+        Votes x = new Votes();
         x.propose(1, payload);
         return x.ledger(1, true, payload / 50 % 5);
     }
 
     private static void without() {
         promise = 33;
-        ChainVotes x = new ChainVotes();
+        Votes x = new Votes();
         due("4", x.without(4), NONE);
         due("-1", x.without(-1), NONE);
         for (int i = 0; i < 4; i++) due("of four leaders one is missing", x.without(i), NONE);
@@ -1482,7 +1482,7 @@ public final class PromiseTests {
 
     private static void audit() {
         promise = 34;
-        ChainVotes x = new ChainVotes();
+        Votes x = new Votes();
         due("5", x.audit(5), NONE);
         due("-1", x.audit(-1), NONE);
         x = liars(0, 1, 2, 3);
@@ -1510,7 +1510,7 @@ public final class PromiseTests {
         due("no such node", x.audit(2), 0);
         due("longest of all", x.audit(3), 2);
         due("c", c, 3);
-        x = new ChainVotes();
+        x = new Votes();
         x.calm(3);
         due("in common", x.audit(2), 1);
         for (int i = 1; i < 4; i++) x.mode(i, 1);
@@ -1520,7 +1520,7 @@ public final class PromiseTests {
 
     private static void pending() {
         promise = 35;
-        ChainVotes x = new ChainVotes();
+        Votes x = new Votes();
         x.propose(1, 0);
         x.deliver(3);
         x.timeout(0);
@@ -1536,7 +1536,7 @@ public final class PromiseTests {
 
     private static void path() {
         promise = 36;
-        ChainVotes x = liars(0, 1, 2, 3);
+        Votes x = liars(0, 1, 2, 3);
         int a = forge(x, 0, 1);
         int b = forge(x, 0, 1);
         int c = forge(x, a, 2);
@@ -1554,7 +1554,7 @@ public final class PromiseTests {
 
     private static void best() {
         promise = 38;
-        ChainVotes x = new ChainVotes();
+        Votes x = new Votes();
         for (int w = 0; w < 4; w++) due("fresh " + w, x.best(w), 0);
         due("4", x.best(4), NONE);
         due("-1", x.best(-1), NONE);
@@ -1585,7 +1585,7 @@ public final class PromiseTests {
 
     private static void soon() {
         promise = 39;
-        ChainVotes x = new ChainVotes();
+        Votes x = new Votes();
         due("three rounds", x.soon(), 3);
         due("nothing stays", x.look(3) + x.look(15) + x.look(11) + x.look(4), 1);
         x.calm(1);
@@ -1604,12 +1604,12 @@ public final class PromiseTests {
         x.mode(3, 2);
         x.mode(0, 0);
         due("0 alone is: it counts the marks for BLOCK 3", x.soon(), 3);
-        x = new ChainVotes();
+        x = new Votes();
         x.mode(0, 1);
         due("a leader is missing", x.soon(), NONE);
     }
 
-    private static boolean isLonger(ChainVotes x, int[] before) {
+    private static boolean isLonger(Votes x, int[] before) {
         for (int i = 0; i < before.length; i++) {
             if (x.node(i, 0) == 0 && x.node(i, 8) > before[i]) return true;
         }
@@ -1617,7 +1617,7 @@ public final class PromiseTests {
     }
 
     /** SOON as the document says it: by CALM itself, for each number of rounds from the image. */
-    private static int soonByCalm(ChainVotes x) {
+    private static int soonByCalm(Votes x) {
         int[] before = new int[x.look(0)];
         for (int i = 0; i < before.length; i++) before[i] = x.node(i, 8);
         x.image(true);
@@ -1631,8 +1631,8 @@ public final class PromiseTests {
     }
 
     /** An object in which one NODE, a liar, is ahead in a VIEW: the others commit once they have come to it. */
-    private static ChainVotes oneAhead(int n, int rule, int who, int view) {
-        ChainVotes x = new ChainVotes();
+    private static Votes oneAhead(int n, int rule, int who, int view) {
+        Votes x = new Votes();
         x.nodes(n);
         x.leaders(rule);
         for (int i = 0; i < n; i++) x.mode(i, 2);
@@ -1647,12 +1647,12 @@ public final class PromiseTests {
         promise = 39;
         for (int view = 2; view < 30; view++) {
             for (int n = 4; n < 8; n++) {
-                ChainVotes x = oneAhead(n, view % 3, n - 3, view);
+                Votes x = oneAhead(n, view % 3, n - 3, view);
                 due("one ahead of " + n + " at VIEW " + view, x.soon(), soonByCalm(x));
             }
         }
         due("the 20th round", oneAhead(4, 0, 1, 14).soon(), 20);
-        ChainVotes x = oneAhead(6, 2, 1, 14);
+        Votes x = oneAhead(6, 2, 1, 14);
         due("not by 20", x.soon(), NONE);
         int[] before = {1, 1, 1, 1, 1, 1};
         x.calm(20);
@@ -1663,7 +1663,7 @@ public final class PromiseTests {
 
     private static void two() {
         promise = 40;
-        ChainVotes x = liars(0, 1, 2, 3);
+        Votes x = liars(0, 1, 2, 3);
         int a = forge(x, 0, 1);
         int b = forge(x, a, 2);
         int c = forge(x, a, 2);
@@ -1687,7 +1687,7 @@ public final class PromiseTests {
 
     private static void would() {
         promise = 41;
-        ChainVotes x = new ChainVotes();
+        Votes x = new Votes();
         due("for 0", x.would(0, 0), NONE);
         due("for none", x.would(0, 1), NONE);
         x.propose(1, 0);
@@ -1735,7 +1735,7 @@ public final class PromiseTests {
 
     private static void chain() {
         promise = 42;
-        ChainVotes x = liars(0, 1, 2, 3);
+        Votes x = liars(0, 1, 2, 3);
         x.lie(1, 1, 0, 1, 100);
         emptyNet(x);
         for (int i = 0; i < 3; i++) x.lie(i, 0, 1, 0, 0);
@@ -1766,7 +1766,7 @@ public final class PromiseTests {
         x.mode(3, 1);
         due("HOLD without a silent one", x.chain(0, 6), 3);
         due("HOLD of 1 was the silent one's", x.chain(1, 6), 0);
-        x = new ChainVotes();
+        x = new Votes();
         x.calm(4);
         x.mode(1, 1);
         due("committed by silent ones, too", x.chain(2, 4), 1);
@@ -1775,7 +1775,7 @@ public final class PromiseTests {
 
     private static void image() {
         promise = 43;
-        ChainVotes x = new ChainVotes();
+        Votes x = new Votes();
         due("none", x.image(false), false);
         x.nodes(5);
         x.leaders(1);
@@ -1807,7 +1807,7 @@ public final class PromiseTests {
         }
         due("the plan goes on", x.run(3), 2);
         // What went on after it was taken does not change it; a new one takes its place.
-        x = new ChainVotes();
+        x = new Votes();
         x.image(true);
         x.calm(4);
         x.image(true);
@@ -1820,7 +1820,7 @@ public final class PromiseTests {
 
     private static void look() {
         promise = 44;
-        ChainVotes x = new ChainVotes();
+        Votes x = new Votes();
         due("21", x.look(21), NO_NUMBER);
         due("-1", x.look(-1), NO_NUMBER);
         due("MIN", x.look(MIN), NO_NUMBER);
