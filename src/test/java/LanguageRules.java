@@ -19,6 +19,7 @@ import java.util.spi.ToolProvider;
 /** What of ../shared/LANGUAGE.md can be seen from the source, the classes and their bytecode. */
 public final class LanguageRules {
     private static final Path SOURCE = Path.of("src/main/java/ChainVotes.java");
+    private static final Path DOCUMENT = Path.of("../shared/DOC.md");
     private static int wrong = 0;
 
     private static void rule(int number, boolean kept, String what) {
@@ -107,6 +108,13 @@ public final class LanguageRules {
             rule(1, Modifier.isPrivate(f.getModifiers()) || f.getName().equals("NONE"), "visible field " + f);
         }
         rule(1, Modifier.isFinal(ChainVotes.class.getModifiers()), "the class is not final");
+    }
+
+    /** The face above is the document's, line by line. */
+    private static void documentsFace() throws java.io.IOException {
+        Matcher m = Pattern.compile("public final class ChainVotes \\{\\n(.*?)\\}", Pattern.DOTALL).matcher(Files.readString(DOCUMENT));
+        String told = m.find() ? m.group(1).replaceAll("(?m)^ +", "") : "";
+        rule(1, told.equals("public static final int NONE = -1;\n" + FACE), "the document's face is " + told);
     }
 
     private static List<Class<?>> classes() {
@@ -214,6 +222,7 @@ public final class LanguageRules {
     }
 
     public static void main(String[] args) throws java.io.IOException {
+        documentsFace();
         face();
         shapes();
         bytecode();
